@@ -263,9 +263,11 @@ public final class RefHeap {
     long h = DIGEST_START;
     tour.begin();
     tour.comeTo(roots[i]);
-    // The tour grows while it is walked, but takes each object only once.
-    for (Thing thing = tour.first; thing != null; thing = thing.nextOnTour) {
+    // The tour grows while it is walked, but takes no object twice: never more than there are.
+    int left = counts[ALIVE];
+    for (Thing thing = tour.first; thing != null && left > 0; thing = thing.nextOnTour) {
       h = thing.digestOn(mix(h, thing.kind), tour);
+      left--;
     }
     return h;
   }
@@ -417,10 +419,12 @@ public final class RefHeap {
     for (int i = 0; i < counts[ROOTS]; i++) {
       tour.comeTo(roots[i]);
     }
-    // The tour grows while it is walked, but takes each object only once.
-    for (Thing thing = tour.first; thing != null; thing = thing.nextOnTour) {
+    // As in digest, the tour grows while it is walked.
+    int left = counts[ALIVE];
+    for (Thing thing = tour.first; thing != null && left > 0; thing = thing.nextOnTour) {
       thing.leadOn(tour, soft);
       thing.leadOnAsKey(tour);
+      left--;
     }
   }
 
@@ -469,7 +473,8 @@ public final class RefHeap {
     int tourNumber;
     int place;
     Thing nextOnTour;
-    // Pairs met on a collection's tour ahead of their referent, which is this object.
+    // Reached pairs whose referent this is, while it is not reached itself: should it be later,
+    // it brings their values, and no pair has to be looked at again and again.
     Loose firstPair;
 
     Thing(int kind, int cells) {
@@ -485,6 +490,7 @@ public final class RefHeap {
       return mix(mix(h, 0), 0);
     }
 
+    /** Brings the values of the pairs that were reached ahead of this one, their referent. */
     final void leadOnAsKey(Tour tour) {
       for (Loose pair = firstPair; pair != null; pair = pair.nextPair) {
         tour.comeTo(pair.value);
@@ -599,16 +605,12 @@ public final class RefHeap {
         tour.comeTo(referent);
       }
       if (kind == PAIR && referent != null) {
-        leadOnAsPair(tour);
-      }
-    }
-
-    private void leadOnAsPair(Tour tour) {
-      if (tour.has(referent)) {
-        tour.comeTo(value);
-      } else {
-        nextPair = referent.firstPair;
-        referent.firstPair = this;
+        if (tour.has(referent)) {
+          tour.comeTo(value);
+        } else {
+          nextPair = referent.firstPair;
+          referent.firstPair = this;
+        }
       }
     }
   }

@@ -106,7 +106,8 @@ public final class ModelTest {
   private static int root(Random random, int roots) {
     int chance = random.nextInt(40);
     if (chance == 0) {
-      return random.nextInt(400) - 3;
+      int[] odd = {Integer.MIN_VALUE, Integer.MAX_VALUE, -2, 63, 64, 383, 384};
+      return odd[random.nextInt(odd.length)];
     }
     if (chance < 4) {
       return 62 + random.nextInt(6);
