@@ -5,8 +5,14 @@ final class Due {
   }
 
   private static int wrong = 0;
+  private static String sentence = "";
 
   private Due() {}
+
+  /** The document's words that the next answers are held against; told with every wrong one. */
+  static void says(String words) {
+    sentence = words + ": ";
+  }
 
   static void equal(String call, long got, long want) {
     if (got != want) {
@@ -51,6 +57,6 @@ final class Due {
 
   private static void report(String call, String got, String want) {
     wrong++;
-    System.out.println(call + " answered " + got + ", due is " + want);
+    System.out.println(sentence + call + " answered " + got + ", due is " + want);
   }
 }
