@@ -151,8 +151,9 @@ public final class LooseEdgeTest {
     RefHeap[] both = {cleared, collected};
     for (RefHeap x : both) {
       Due.equal("give(5, 6)", x.give(PAIR, 6), 0);
+      Due.equal("the value stays null", x.referent(ELSE, PAIR, true), 0);
       Due.equal("give(5, -1)", x.give(PAIR, -1), 0);
-      Due.equal("the value", x.referent(ELSE, PAIR, true), 0);
+      Due.equal("the value is null", x.referent(ELSE, PAIR, true), 0);
       x.copy(6, -1);
       Due.holds("what was not given is not kept", x.collect(false) >= 3);
     }

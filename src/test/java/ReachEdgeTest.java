@@ -10,6 +10,8 @@ public final class ReachEdgeTest {
     whatIsInAQueue();
     valueOfAPair();
     valueThatAloneLeadsToTheReferent();
+    pairsOfOneReferent();
+    pairIsReachedAnewInEachCollection();
     pairsInAnyOrder();
     allClausesTogether();
     weakAndPhantomReachNothing();
@@ -236,6 +238,53 @@ public final class ReachEdgeTest {
     self.copy(1, -1);
     self.copy(2, -1);
     Due.equal("freed: the referent is a pair that the referent leads to", self.collect(false), 0);
+  }
+
+  /** A heap whose root 20 has a ref, which is held by that alone: root 1 may be null. */
+  private static RefHeap heapWithReferentByARef() {
+    RefHeap x = heap();
+    x.plain(20, 1, 0);
+    x.plain(1, 0, 0);
+    x.link(20, 0, 1);
+    return x;
+  }
+
+  private static void pairsOfOneReferent() {
+    Due.says("Term 3, 'the VALUE of a REACHED PAIR of which the REFERENT is REACHED', for each");
+    for (int pairs = 1; pairs <= 4; pairs++) {
+      for (int ahead = 0; ahead <= pairs; ahead++) {
+        RefHeap x = heapWithReferentByARef();
+        for (int n = 0; n < pairs; n++) {
+          x.plain(40, 0, n);
+          x.pair(n < ahead ? 10 + n : 30 + n, 1, 40, -1);
+        }
+        x.copy(1, -1);
+        x.copy(40, -1);
+        Due.equal("freed while the referent is held", x.collect(false), 0);
+        x.link(20, 0, -1);
+        int values = 2 * pairs + pairs * (pairs - 1) / 2;
+        Due.equal("freed when it is not", x.collect(false), 2 + values);
+        Due.equal("let go", x.count(5), pairs);
+      }
+    }
+  }
+
+  /** Pairs in roots 10 and 30, ahead of what leads to their referent and behind it. */
+  private static void pairIsReachedAnewInEachCollection() {
+    Due.says("Term 3, 'the VALUE of a REACHED PAIR', REACHED in this collection");
+    RefHeap x = heapWithReferentByARef();
+    for (int i = 10; i <= 30; i += 20) {
+      x.plain(3, 0, i / 10);
+      x.pair(i, 1, 3, -1);
+    }
+    x.copy(1, -1);
+    x.copy(3, -1);
+    Due.equal("freed while both pairs are held", x.collect(false), 0);
+    x.copy(10, -1);
+    Due.equal("freed with the first pair: its value", x.collect(false), 5 + 3);
+    x.copy(30, -1);
+    Due.equal("freed with the second pair: its value", x.collect(false), 5 + 5);
+    Due.equal("none let go", x.count(5), 0);
   }
 
   /** Pairs 0 to 3: key 20 leads by value to 21, that to 22 .. made in each order of four. */
