@@ -287,7 +287,9 @@ public final class RefHeap {
   }
 
   private static void checkNotNegative(int k) {
-    checkRange(k, 0, Integer.MAX_VALUE);
+    if (k < 0) {
+      throw new IllegalArgumentException("a number is below 0");
+    }
   }
 
   private void checkRoot(int i) {
